@@ -179,6 +179,9 @@ public final class DayBoy {
             count++;
             more = in.takes(';');
         }
+        if (more) {
+            in.refuse();
+        }
         in.finish();
         return count;
     }
