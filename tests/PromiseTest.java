@@ -102,7 +102,11 @@ public final class PromiseTest {
         Due.is("count(5)", x.count(5), 159);
         Due.is("feed of one more", x.feed(0, 0, 0xFF, 0, 0), 160);
         Due.is("feed of nothing more", x.feed(0, 0, 0, 0, 0), 160);
-        Due.is("feed of one too many", x.feed(0, 0, 0, 0, 1), NONE);
+        for (int word = 0; word < 5; word++) {
+            int[] w = new int[5];
+            w[word] = 1;
+            Due.is("feed of one too many", x.feed(w[0], w[1], w[2], w[3], w[4]), NONE);
+        }
         Due.is("count(5)", x.count(5), 160);
     }
 
@@ -825,6 +829,10 @@ public final class PromiseTest {
         Due.head(y, "k2000-2000,b1,o2,m1=2:1");
         Due.head(y, "k2000-2000,b2,o2,m1=2:1");
         Due.is("the first that is a date", y.part(0, 1, 0, 2000, 1), y.day(0, 2000, 1, 5));
+        DayBoy z = Due.with("7:4+@1750.11.30-30:4+");
+        Due.head(z, "k1700-1760,m12=1:1");
+        Due.head(z, "k1700-1760,m12=1:2");
+        Due.is("the last date of a year alone", z.part(0, 1, 0, 1750, 1), z.day(0, 1750, 12, 31));
     }
 
     private static void leastIs(DayBoy x, int head, int year, int years, int cost, int due) {
@@ -851,11 +859,15 @@ public final class PromiseTest {
         leastIs(x, h, 9997, 3, 2, 3);
         leastIs(x, h, 1, 3, 2, 3);
         leastIs(x, h, 2000, 3, 1, 7);
+        leastIs(x, h, 2000, 3, 4, 3);
+        leastIs(x, h, 2000, 3, 5, 1);
         leastIs(x, h, 2000, 14, 1, 4 + 32 + 256 + 2048);
         h = Due.head(x, "y1:0");
         leastIs(x, h, 2000, 14, 0, 1);
         h = Due.head(x, "k2000-2010");
         leastIs(x, h, 2000, 4, 999, 15);
+        leastIs(x, 0, 2000, 2, 2, 1);
+        leastIs(x, h, 2000, 2, 2, 3);
         h = Due.head(x, "y4:99,y6:99");
         leastIs(x, h, 2000, 6, 198, 3);
         leastIs(x, h, 2000, 6, 197, 1 + 2 + 4 + 8);
@@ -973,6 +985,10 @@ public final class PromiseTest {
         Due.is("not yet", x.age(2, 1750, 12, 30), 10);
         x.born(2, 1740, 1, 3);
         Due.is("3 January is there", x.age(2, 1751, 1, 3), 11);
+        DayBoy y = Due.with("7:4+@1750.12.30-1:4+");
+        y.born(0, 1740, 12, 31);
+        Due.is("the day ahead of it", y.age(0, 1750, 12, 30), 9);
+        Due.is("1 January instead of 31 December", y.age(0, 1751, 1, 1), 10);
         x.born(3, 9990, 11, 20);
         Due.is("a month that is left out", x.age(3, 9999, 11, 1), 8);
         Due.is("behind it", x.age(3, 9999, 12, 2), 9);
@@ -993,6 +1009,13 @@ public final class PromiseTest {
         }
         Due.is("one too many", x.event(0, 1752, 9, 2, 0), NONE);
         Due.is("count(4)", x.count(4), 30);
+        Due.is("held", x.held(0, 1752, 9, 2), 15);
+        Due.is("spell", x.spell(0), 1);
+        DayBoy y = Due.with(Due.GREGORIAN);
+        for (int d = 30; d >= 1; d--) {
+            y.event(0, 2000, 1, d, 2);
+        }
+        Due.is("a spell of all", y.spell(2), 30);
     }
 
     private static void held() {
@@ -1076,6 +1099,7 @@ public final class PromiseTest {
         Due.is("asked(0, 4)", x.asked(0, 4), 9);
         Due.is("lived(0)", x.lived(0), 9);
         Due.is("held", x.held(0, 2000, 1, 1), 4);
+        Due.is("held by what has gone", x.held(0, 2000, 1, 2), 0);
         Due.is("spell(2)", x.spell(2), 1);
         Due.is("a month below the kept one", x.ask(2, 0, 2000, 1, 1, 5, 9), NONE);
         Due.is("the kept one's month", x.ask(3, 0, 2000, 1, 1, 5, 9), 1);
