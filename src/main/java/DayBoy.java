@@ -1257,7 +1257,7 @@ public final class DayBoy {
             Stretch stretch = new Stretch();
             stretch.readLeaps(in);
             almanac.add(stretch);
-            while (almanac.size <= CHANGES_MOST && in.takes('@')) {
+            for (int changes = 0; changes < CHANGES_MOST && in.takes('@'); changes++) {
                 stretch = readChange(in, stretch);
                 almanac.add(stretch);
             }
@@ -1433,6 +1433,8 @@ public final class DayBoy {
     /** Years, joined by steps: the lines of a step are that to the lower and that to the higher year. */
     private static final class Steps implements Net {
         private static final int STEPS_MOST = 6;
+        /** Far more than widths up to 400 need. */
+        private static final int ROUNDS_MOST = 400;
 
         private final int[] widths = new int[STEPS_MOST];
         private final int[] costs = new int[STEPS_MOST];
@@ -1487,7 +1489,7 @@ public final class DayBoy {
         private static int commonDivisor(int a, int b) {
             int high = Math.max(a, b);
             int low = Math.min(a, b);
-            while (low > 0) {
+            for (int rounds = 0; rounds < ROUNDS_MOST && low > 0; rounds++) {
                 int rest = high % low;
                 high = low;
                 low = rest;
@@ -1676,6 +1678,9 @@ public final class DayBoy {
 
     /** Nodes that wait, that with the least length on top. */
     private static final class Heap {
+        /** Each level holds twice as many as the one above it. */
+        private static final int LEVELS_MOST = 31;
+
         private final int[] nodes;
         /** Where in the heap a node is; 0 if it does not wait. */
         private final int[] places;
@@ -1730,7 +1735,10 @@ public final class DayBoy {
         private void sink(int node, long[] lengths) {
             int place = 1;
             int child = lesserChild(place, lengths);
-            while (child != 0 && lengths[nodes[child]] < lengths[node]) {
+            for (int level = 0; level < LEVELS_MOST && child != 0; level++) {
+                if (lengths[nodes[child]] >= lengths[node]) {
+                    break;
+                }
                 set(place, nodes[child]);
                 place = child;
                 child = lesserChild(place, lengths);
