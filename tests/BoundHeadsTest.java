@@ -250,6 +250,10 @@ public final class BoundHeadsTest {
         Due.is("MONTH 1,000", x.ask(1000, 0, 1, 1, 1, 0, 0), NONE);
         Due.is("MONTH 0", x.ask(0, 0, 1, 1, 1, 0, 0), 0);
         Due.is("MONTH 500", x.ask(500, 0, 1, 1, 1, 0, 0), 1);
+        DayBoy y = with("k1-1");
+        Due.is("the first", y.ask(1, 0, 1, 1, 1, 0, 0), 0);
+        Due.is("below the first", y.ask(0, 0, 1, 1, 1, 0, 0), NONE);
+        Due.is("not below it", y.ask(1, 0, 1, 1, 1, 0, 0), 1);
         Due.is("MONTH 499", x.ask(499, 0, 1, 1, 1, 0, 0), NONE);
         Due.is("MONTH 500 again", x.ask(500, 0, 1, 1, 1, 0, 0), 2);
         Due.is("ANSWER -1", x.ask(501, 0, 1, 1, 1, -1, 0), NONE);
@@ -535,13 +539,19 @@ public final class BoundHeadsTest {
         Due.is("not among these", x.part(0, 2, 0, 9989, 10), NONE);
         Due.is("all but one beyond, none parts", x.part(0, 1, 0, 9999, 20), NONE);
         Due.is("year 10,000", x.part(0, 2, 0, 10000, 1), NONE);
-        Due.is("year 0", x.part(0, 1, 0, 0, 20), NONE);
+        Due.is("year 1", x.part(0, 3, 0, 1, 20), 7);
+        Due.is("year 0", x.part(0, 3, 0, 0, 20), NONE);
+        Due.is("year -1", x.part(0, 3, 0, -1, 20), NONE);
         Due.is("the eighth of January", x.part(0, 3, 0, 1, 1), 7);
         Due.is("the first", x.part(3, 4, 0, 1, 1), 0);
         Due.is("a HEAD and itself", x.part(1, 1, 0, 100, 1), NONE);
         DayBoy y = with("k1-1,m12=1:0", "k1-1,m12=1:0,o1,o12");
         // December and January of the year 1 began on unlike days
         Due.is("the last month", y.part(0, 1, 0, 1, 1), 334);
+        DayBoy z = Due.with("0:1-@1.12.31-30:1-");
+        Due.head(z, "k1-1,y1:0");
+        Due.head(z, "k1-1,y1:1");
+        Due.is("the first DAY is that of 31 January", z.part(0, 1, 0, 2, 1), 365);
     }
 
     private static void least(DayBoy x, int head, int year, int years, int cost, int due) {
